@@ -181,7 +181,7 @@ public final class ModelTest {
     }
 
     private static int anyKind() {
-        // map, load, store and trade twice as often as the rest, that there be something to see.
+        // The calls that change pages and words come more often, that there be something to see.
         int[] kinds = {1, 1, 2, 3, 4, 4, 5, 5, 6, 6, 6, 7, 7, 8, 8, 9, 10, 11, 12, 12, 13, 14, 15, 16, 17, 18};
         return kinds[next(kinds.length)];
     }
