@@ -7,7 +7,10 @@ import java.util.Arrays;
 import java.util.Set;
 import java.util.TreeSet;
 
-/** The class has the members of the document's public face, and no other that isn't private. */
+/**
+ * The class has the members of the document's public face, and no other that isn't private; its members keep to
+ * those rules of LANGUAGE.md that can be read from them.
+ */
 public final class FaceTest {
     private static final Set<String> FACE = new TreeSet<>(Arrays.asList(
         "public static final int BAD_ARG",
@@ -68,6 +71,44 @@ public final class FaceTest {
         return count;
     }
 
+    private static final Set<Class<?>> NUMBERS = Set.of(int.class, long.class, short.class, byte.class, char.class,
+        boolean.class);
+
+    private static int fieldsOfOtherTypes() {
+        int count = 0;
+        for (Field f : VipCache.class.getDeclaredFields()) {
+            Class<?> type = f.getType().isArray() ? f.getType().getComponentType() : f.getType();
+            if (!NUMBERS.contains(type)) {
+                count++;
+            }
+        }
+        return count;
+    }
+
+    private static int privateMethodsWithPublicNames() {
+        Set<String> names = new TreeSet<>();
+        for (Method m : VipCache.class.getMethods()) {
+            names.add(m.getName());
+        }
+        int count = 0;
+        for (Method m : VipCache.class.getDeclaredMethods()) {
+            if (Modifier.isPrivate(m.getModifiers()) && names.contains(m.getName())) {
+                count++;
+            }
+        }
+        return count;
+    }
+
+    private static int methodsWithTooManyParameters() {
+        int count = 0;
+        for (Method m : VipCache.class.getDeclaredMethods()) {
+            if (m.getParameterCount() > 7) {
+                count++;
+            }
+        }
+        return count;
+    }
+
     public static void main(String[] args) {
         int wrong = 0;
         Set<String> found = openMembers();
@@ -95,6 +136,18 @@ public final class FaceTest {
         if (staticFieldsThatAreNotNumbers() != 0) {
             wrong++;
             System.out.println("a static field is not a constant of int or long");
+        }
+        if (fieldsOfOtherTypes() != 0) {
+            wrong++;
+            System.out.println("a field is neither a whole number or boolean nor an array of these");
+        }
+        if (privateMethodsWithPublicNames() != 0) {
+            wrong++;
+            System.out.println("a private method bears the name of a public one");
+        }
+        if (methodsWithTooManyParameters() != 0) {
+            wrong++;
+            System.out.println("a method takes more than seven parameters");
         }
         if (wrong != 0) {
             System.exit(1);

@@ -428,6 +428,9 @@ public final class PromisesTest {
         due("14 marks(1) stay", c.marks(1), 1);
         due("14 clearMarks(1)", c.clearMarks(1), 1);
         due("14 clearMarks(2) unmapped", c.clearMarks(2), 0);
+        c.load(15, 0);
+        due("14 clearMarks(15) of a read-only page", c.clearMarks(15), 1);
+        due("14 marks(15)", c.marks(15), 0);
         due("14 dirtyPages()", c.dirtyPages(), 0);
         due("14 frameOf(0)", c.frameOf(0), 2);
         due("14 the word stays", c.word(2, 3), 555);
